@@ -1,0 +1,47 @@
+import java.util.function.LongSupplier;
+
+/** Compares answers with those that are due, and ends a test. */
+final class Due {
+    private static final int MOST_TOLD = 40;
+    private static int wrong;
+
+    private Due() {
+    }
+
+    static void is(String call, long got, long want) {
+        if (got != want) {
+            wrong++;
+            if (wrong <= MOST_TOLD) {
+                System.out.println(call + " answered " + got + ", due is " + want);
+            }
+        }
+    }
+
+    /** For answers that must come without an exception, whatever they are. */
+    static void is(String call, LongSupplier got, long want) {
+        try {
+            is(call, got.getAsLong(), want);
+        } catch (RuntimeException thrown) {
+            wrong++;
+            System.out.println(call + " threw " + thrown + ", due is " + want);
+        }
+    }
+
+    static void holds(String what, boolean is) {
+        if (!is) {
+            wrong++;
+            System.out.println(what);
+        }
+    }
+
+    static boolean isWrong() {
+        return wrong != 0;
+    }
+
+    static void end() {
+        System.out.println(wrong == 0 ? "all answers are as due" : wrong + " answers are not as due");
+        if (wrong != 0) {
+            System.exit(1);
+        }
+    }
+}

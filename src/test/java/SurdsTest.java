@@ -1,0 +1,103 @@
+/** Many surds, each asked for all that hangs on it alone, and compared with the model. */
+public final class SurdsTest {
+    private SurdsTest() {
+    }
+
+    public static void main(String[] args) {
+        int stride = args.length > 0 ? Integer.parseInt(args[0]) : 23456;
+        plainRoots();
+        // The stride shares no divisor with the number of all surds, so that p, d and q all wander.
+        for (int i = 0; i < 199 * 998 * 199 && !Due.isWrong(); i += stride) {
+            compare(i % 199 - 99, i / 199 % 998 + 2, i / 199 / 998 - 99);
+        }
+        edges();
+        Due.end();
+    }
+
+    private static void plainRoots() {
+        SurdFractions program = new SurdFractions();
+        Model model = new Model();
+        for (int d = 2; d <= 999; d++) {
+            Due.is("surd(0, " + d + ", 1)", program.surd(0, d, 1), model.surd(0, d, 1));
+            askSquares("root of " + d, program, model);
+            askAgain("root of " + d, program, model);
+        }
+    }
+
+    private static void edges() {
+        int[] ends = {-99, -98, -1, 1, 98, 99};
+        for (int p : ends) {
+            for (int q : ends) {
+                compare(p, 2, q);
+                compare(p, 962, q);
+                compare(p, 999, q);
+            }
+        }
+    }
+
+    private static void compare(int p, int d, int q) {
+        String name = "surd(" + p + ", " + d + ", " + q + ")";
+        SurdFractions program = new SurdFractions();
+        Model model = new Model();
+        long answer = model.surd(p, d, q);
+        Due.is(name, program.surd(p, d, q), answer);
+        if (answer != 0) {
+            return;
+        }
+        askAgain(name, program, model);
+        for (int i = 0; i < 400; i++) {
+            Due.is(name + " term(" + i + ")", program.term(i), model.term(i));
+        }
+        for (int i = 0; i < 400; i += i < 90 ? 1 : 30) {
+            askConvergent(name, i, program, model);
+        }
+        for (int i = 1; i <= 200; i++) {
+            askNear(name, i, program, model);
+        }
+        askSquares(name, program, model);
+    }
+
+    private static void askAgain(String name, SurdFractions program, Model model) {
+        for (int i = 0; i < 5; i++) {
+            Due.is(name + " again(" + i + ")", program.again(i), model.again(i));
+        }
+    }
+
+    private static void askConvergent(String name, int index, SurdFractions program, Model model) {
+        for (int part = 0; part < 2; part++) {
+            Due.is(name + " convergent(" + index + ", " + part + ")",
+                    program.convergent(index, part), model.convergent(index, part));
+            int term = program.term(index) - 1000;
+            for (int by = 0; by <= Math.min(term, 4); by++) {
+                Due.is(name + " between(" + index + ", " + by + ", " + part + ")",
+                        program.between(index, by, part), model.between(index, by, part));
+            }
+            Due.is(name + " between(" + index + ", " + (term - 1) + ", " + part + ")",
+                    program.between(index, term - 1, part), model.between(index, term - 1, part));
+        }
+    }
+
+    private static void askNear(String name, int bound, SurdFractions program, Model model) {
+        Due.is(name + " records(" + bound + ")", program.records(bound), model.records(bound));
+        for (int part = 0; part < 2; part++) {
+            String end = bound + ", " + part + ")";
+            Due.is(name + " nearest(" + end, program.nearest(bound, part), model.nearest(bound, part));
+            Due.is(name + " beside below (" + end, program.beside(bound, 0, part), model.beside(bound, 0, part));
+            Due.is(name + " beside above (" + end, program.beside(bound, 1, part), model.beside(bound, 1, part));
+        }
+    }
+
+    private static void askSquares(String name, SurdFractions program, Model model) {
+        for (int part = 0; part < 2; part++) {
+            Due.is(name + " leastSolution(" + part + ")", program.leastSolution(part), model.leastSolution(part));
+        }
+        for (int n = -60; n <= 60; n += 1 + Math.abs(n) / 6) {
+            long all = model.solutions(n);
+            Due.is(name + " solutions(" + n + ")", program.solutions(n), all);
+            for (int i = 0; n != 0 && i <= all; i++) {
+                Due.is(name + " solution(" + n + ", " + i + ", 0)", program.solution(n, i, 0), model.solution(n, i, 0));
+                Due.is(name + " solution(" + n + ", " + i + ", 1)", program.solution(n, i, 1), model.solution(n, i, 1));
+            }
+        }
+    }
+}
