@@ -1,4 +1,4 @@
-/** Each promise of the document with answers worked out by hand: the ordinary, the edges, the wrong. */
+/** Each promise of the document with answers worked out beforehand: the ordinary, the edges, the wrong. */
 public final class PromisesTest {
     private static final int INVALID = -1000001;
     private static final int NOT_POSSIBLE = -1000002;
