@@ -4,16 +4,20 @@ import java.util.function.LongSupplier;
 final class Due {
     private static final int MOST_TOLD = 40;
     private static int wrong;
+    private static boolean silent;
 
     private Due() {
     }
 
     static void is(String call, long got, long want) {
         if (got != want) {
-            wrong++;
-            if (wrong <= MOST_TOLD) {
-                System.out.println(call + " answered " + got + ", due is " + want);
-            }
+            tell(call + " answered " + got + ", due is " + want);
+        }
+    }
+
+    static void isNot(String call, long got, long unwanted) {
+        if (got == unwanted) {
+            tell(call + " answered " + got + ", which is not due");
         }
     }
 
@@ -22,20 +26,34 @@ final class Due {
         try {
             is(call, got.getAsLong(), want);
         } catch (RuntimeException thrown) {
-            wrong++;
-            System.out.println(call + " threw " + thrown + ", due is " + want);
+            tell(call + " threw " + thrown + ", due is " + want);
         }
     }
 
     static void holds(String what, boolean is) {
         if (!is) {
-            wrong++;
+            tell(what);
+        }
+    }
+
+    static void tell(String what) {
+        wrong++;
+        if (wrong <= MOST_TOLD && !silent) {
             System.out.println(what);
         }
     }
 
     static boolean isWrong() {
         return wrong != 0;
+    }
+
+    static int wrongOnes() {
+        return wrong;
+    }
+
+    /** For a program that is broken on purpose. */
+    static void keepSilent() {
+        silent = true;
     }
 
     static void end() {

@@ -1,13 +1,5 @@
 /** Each promise of the document with answers worked out beforehand: the ordinary, the edges, the wrong. */
-public final class PromisesTest {
-    private static final int INVALID = -1000001;
-    private static final int NOT_POSSIBLE = -1000002;
-    private static final int LIMIT = -1000003;
-    private static final int NOT_FOUND = -1000004;
-    private static final long RAISED = 9000000000000000L;
-    private static final int LEAST_INT = Integer.MIN_VALUE;
-    private static final int GREATEST_INT = Integer.MAX_VALUE;
-
+public final class PromisesTest extends Calls {
     private PromisesTest() {
     }
 
@@ -43,50 +35,6 @@ public final class PromisesTest {
         promise23ToldLimits();
         errorsChangeNothing();
         Due.end();
-    }
-
-    private static SurdFractions of(int p, int d, int q) {
-        SurdFractions x = new SurdFractions();
-        Due.is("surd(" + p + ", " + d + ", " + q + ")", x.surd(p, d, q), 0);
-        return x;
-    }
-
-    private static void write(SurdFractions x, String text) {
-        x.clearText();
-        for (int i = 0; i < text.length(); i++) {
-            Due.is("type in " + text, x.type(text.charAt(i)), i + 1);
-        }
-    }
-
-    private static void note(SurdFractions x, String text, int due) {
-        write(x, text);
-        Due.is("note() of " + text, x.note(), due);
-    }
-
-    private static void book(String name, SurdFractions x, int... parts) {
-        Due.is(name + ": count(0)", x.count(0), parts.length / 2);
-        for (int i = 0; i < parts.length / 2; i++) {
-            Due.is(name + ": noteOf(" + i + ", 0)", x.noteOf(i, 0), parts[2 * i] + 1000000);
-            Due.is(name + ": noteOf(" + i + ", 1)", x.noteOf(i, 1), parts[2 * i + 1]);
-        }
-    }
-
-    private static void isSurd(String name, SurdFractions x, int p, int d, int q) {
-        Due.is(name + ": partOf(0)", x.partOf(0), p + 1000);
-        Due.is(name + ": partOf(1)", x.partOf(1), d + 1000);
-        Due.is(name + ": partOf(2)", x.partOf(2), q + 1000);
-    }
-
-    private static void terms(SurdFractions x, int... terms) {
-        for (int i = 0; i < terms.length; i++) {
-            Due.is("term(" + i + ")", x.term(i), terms[i] + 1000);
-        }
-    }
-
-    private static void again(SurdFractions x, int... answers) {
-        for (int i = 0; i < answers.length; i++) {
-            Due.is("again(" + i + ")", x.again(i), answers[i]);
-        }
     }
 
     private static void promise1NewObject() {
@@ -201,11 +149,6 @@ public final class PromisesTest {
         }
     }
 
-    private static void isConvergent(SurdFractions x, int index, long upper, long lower) {
-        Due.is("convergent(" + index + ", 0)", x.convergent(index, 0), upper + RAISED);
-        Due.is("convergent(" + index + ", 1)", x.convergent(index, 1), lower);
-    }
-
     private static void promise6Convergent() {
         SurdFractions x = new SurdFractions();
         isConvergent(x, 0, 1, 1);
@@ -237,11 +180,6 @@ public final class PromisesTest {
         }
     }
 
-    private static void isBetween(SurdFractions x, int index, int by, long upper, long lower) {
-        Due.is("between(" + index + ", " + by + ", 0)", x.between(index, by, 0), upper + RAISED);
-        Due.is("between(" + index + ", " + by + ", 1)", x.between(index, by, 1), lower);
-    }
-
     private static void promise7Between() {
         SurdFractions x = new SurdFractions();
         isBetween(x, 2, 1, 4, 3);
@@ -271,11 +209,6 @@ public final class PromisesTest {
         }
     }
 
-    private static void isNearest(SurdFractions x, int bound, int upper, int lower) {
-        Due.is("nearest(" + bound + ", 0)", x.nearest(bound, 0), upper + 1000000);
-        Due.is("nearest(" + bound + ", 1)", x.nearest(bound, 1), lower);
-    }
-
     private static void promise8Nearest() {
         SurdFractions x = new SurdFractions();
         isNearest(x, 1, 1, 1);
@@ -300,11 +233,6 @@ public final class PromisesTest {
         for (int[] one : wrong) {
             Due.is("nearest of a wrong argument", x.nearest(one[0], one[1]), INVALID);
         }
-    }
-
-    private static void isBeside(SurdFractions x, int bound, int above, int upper, int lower) {
-        Due.is("beside(" + bound + ", " + above + ", 0)", x.beside(bound, above, 0), upper + 1000000);
-        Due.is("beside(" + bound + ", " + above + ", 1)", x.beside(bound, above, 1), lower);
     }
 
     private static void promise9Beside() {
@@ -349,11 +277,6 @@ public final class PromisesTest {
         for (int one : wrong) {
             Due.is("records of a wrong argument", x.records(one), INVALID);
         }
-    }
-
-    private static void isSolution(SurdFractions x, int n, int index, int due0, int due1) {
-        Due.is("solution(" + n + ", " + index + ", 0)", x.solution(n, index, 0), due0);
-        Due.is("solution(" + n + ", " + index + ", 1)", x.solution(n, index, 1), due1);
     }
 
     private static void promise11Solution() {
@@ -617,12 +540,6 @@ public final class PromisesTest {
         Due.is("no change", x.undo(), NOT_POSSIBLE);
     }
 
-    private static void faultOf(SurdFractions x, String text, int place, int reason) {
-        write(x, text);
-        Due.is("fault(0) of \"" + text + "\"", x.fault(0), place);
-        Due.is("fault(1) of \"" + text + "\"", x.fault(1), reason);
-    }
-
     private static void promise22Fault() {
         SurdFractions x = new SurdFractions();
         String[] good = {
@@ -656,14 +573,6 @@ public final class PromisesTest {
         write(x, "1");
         Due.is("fault(2) of none", x.fault(2), INVALID);
         Due.is("fault(greatest)", x.fault(GREATEST_INT), INVALID);
-    }
-
-    private static void isTold(SurdFractions x, String text, long upper, long... rest) {
-        write(x, text);
-        Due.is("told(0) of " + text, x.told(0), upper + RAISED);
-        for (int i = 0; i < rest.length; i++) {
-            Due.is("told(" + (i + 1) + ") of " + text, x.told(i + 1), rest[i]);
-        }
     }
 
     private static void promise23Told() {
