@@ -238,7 +238,9 @@ final class BookSentences extends Calls {
         Due.is("noteOf(8, 0)", x.noteOf(8, 0), NOT_FOUND);
     }
 
-    @Says(in = "Promise 17", value = "`what`: 0: the upper part plus 1000000; 1: the lower part; 2: 1 if it is above s, otherwise 0; 3: 1 if it is a convergent of s, otherwise 0")
+    @Says(in = "Promise 17", value =
+            "`what`: 0: the upper part plus 1000000; 1: the lower part; 2: 1 if it is above s, otherwise 0; 3: "
+            + "1 if it is a convergent of s, otherwise 0")
     static void promise17_whatIsFrom0To3() {
         SurdFractions x = new SurdFractions();
         note(x, "1;2", 0);
@@ -328,7 +330,9 @@ final class BookSentences extends Calls {
         Due.is("the last one of 3", ofWholeNumbers(3).noteOf(2, 0), 1000003);
     }
 
-    @Says(in = "Promise 18", value = "`what`: 0: fractions in the book; 1: those of them that are above s; 2: states in the history; 3: the length of the text")
+    @Says(in = "Promise 18", value =
+            "`what`: 0: fractions in the book; 1: those of them that are above s; 2: states in the history; 3: "
+            + "the length of the text")
     static void promise18_whatIsFrom0To3() {
         SurdFractions x = ofWholeNumbers(3);
         write(x, "12345");

@@ -31,7 +31,8 @@ final class ChangesSentences extends Calls {
         Due.is("the last call", x.leastSolution(0), 1766319049L);
     }
 
-    @Says(in = "Changes and errors", value = "The changes are the calls of surd, note, strike and strikeAll that return no error.")
+    @Says(in = "Changes and errors", value =
+            "The changes are the calls of surd, note, strike and strikeAll that return no error.")
     static void changes_areSurdNoteStrikeAndStrikeAll() {
         SurdFractions x = new SurdFractions();
         Due.is("surd(0, 2, 1), which changes no number", x.surd(0, 2, 1), 0);
@@ -261,7 +262,8 @@ final class ChangesSentences extends Calls {
         Due.is("partOf(3)", new SurdFractions().partOf(3), -1000001);
     }
 
-    @Says(in = "Changes and errors", value = "`NOT_POSSIBLE = -1000002`: The call is not possible in the present state.")
+    @Says(in = "Changes and errors", value =
+            "`NOT_POSSIBLE = -1000002`: The call is not possible in the present state.")
     static void errors_notPossible() {
         constant("NOT_POSSIBLE", -1000002);
         Due.is("undo()", new SurdFractions().undo(), -1000002);

@@ -3,7 +3,8 @@ final class ConvergentSentences extends Calls {
     private ConvergentSentences() {
     }
 
-    @Says(in = "Terms and convergents", value = "The convergent k is the term 0 plus 1 divided by (the term 1 plus 1 divided by (... the term k)).")
+    @Says(in = "Terms and convergents", value =
+            "The convergent k is the term 0 plus 1 divided by (the term 1 plus 1 divided by (... the term k)).")
     static void terms_theConvergentKEndsWithTheTermK() {
         SurdFractions x = of(0, 61, 1);
         int[][] due = {{7, 1}, {8, 1}, {39, 5}, {125, 16}, {164, 21}, {453, 58}};
@@ -16,7 +17,9 @@ final class ConvergentSentences extends Calls {
         isConvergent(x, 2, -1, 70);
     }
 
-    @Says(in = "Terms and convergents", value = "Between the convergents k - 2 and k, for k of 2 or more, stand those between: with the term k being replaced by 1, 2 and so on up to the term less 1.")
+    @Says(in = "Terms and convergents", value =
+            "Between the convergents k - 2 and k, for k of 2 or more, stand those between: with the term k "
+            + "being replaced by 1, 2 and so on up to the term less 1.")
     static void terms_theTermKIsReplacedBy1UpToTheTermLess1() {
         SurdFractions x = of(0, 61, 1);
         // Between 7 and 39/5, as the term 2 is 4; between 8 and 125/16, as the term 3 is 3.
@@ -29,7 +32,8 @@ final class ConvergentSentences extends Calls {
         Due.is("between(3, 3, 0)", x.between(3, 3, 0), INVALID);
     }
 
-    @Says(in = "Terms", value = "A fraction is told by its upper and lower parts, in lowest terms, the lower part above 0.")
+    @Says(in = "Terms", value =
+            "A fraction is told by its upper and lower parts, in lowest terms, the lower part above 0.")
     static void terms_aFractionIsInLowestTermsWithItsLowerPartAbove0() {
         SurdFractions x = of(0, 2, -1);
         isConvergent(x, 2, -3, 2);
@@ -45,7 +49,9 @@ final class ConvergentSentences extends Calls {
         isTold(x, "-0", 0, 1);
     }
 
-    @Says(in = "Nearness", value = "One fraction is nearer than another one if its distance from s is less (two fractions are never as near, if they are not the same).")
+    @Says(in = "Nearness", value =
+            "One fraction is nearer than another one if its distance from s is less (two fractions are never "
+            + "as near, if they are not the same).")
     static void nearness_aFractionIsNearerIfItsDistanceIsLess() {
         SurdFractions x = new SurdFractions();
         // 193/165 and 209/126, 247/198 and 166/105 stand on either side, their distances but 4 to 10^9 unlike.
@@ -325,7 +331,8 @@ final class ConvergentSentences extends Calls {
         Due.is("1 alone", of(0, 2, 99).records(35), 1);
     }
 
-    @Says(in = "Promise 10", value = "with which a fraction in lowest terms is nearer than all fractions with lesser lower parts")
+    @Says(in = "Promise 10", value =
+            "with which a fraction in lowest terms is nearer than all fractions with lesser lower parts")
     static void promise10_aFractionIsNearerThanAllWithLesserLowerParts() {
         // 1, 2, 3, 5 and 12
         int[] dueOfRootOf2 = {1, 2, 3, 3, 4, 4, 4, 4, 4, 4, 4, 5};

@@ -13,8 +13,9 @@ public final class LanguageTest {
             "\\bimport\\b", "\\bpackage\\b", "\\bthrow\\b", "\\bthrows\\b", "\\btry\\b", "\\bcatch\\b", "\\bfinally\\b",
             "\\bsynchronized\\b", "\\bassert\\b", "\\bvolatile\\b", "\\btransient\\b", "\\bnative\\b", "\\bstrictfp\\b",
             "->", "::", "\\bprotected\\b", "Exact\\b", "\\bdouble\\b", "\\bfloat\\b", "\\bThread\\b", "\\bRandom\\b",
-            "\\bequals\\b", "\\bhashCode\\b", "\\btoString\\b", "\\bObject\\b", "\\bMath\\.(?!(abs|floorDiv|max)\\b)",
-            "\\bSystem\\b", "\\bjava\\.", "\\bstatic\\s*\\{", "@\\w+");
+            "\\bequals\\b", "\\bhashCode\\b", "\\btoString\\b", "\\bObject\\b",
+            "\\bMath\\.(?!(abs|floorDiv|floorMod|max|min)\\b)", "\\bSystem\\.(?!arraycopy\\b)",
+            "\\bjava\\.", "\\bstatic\\s*\\{", "@\\w+");
     private static final Pattern METHOD = Pattern.compile("(?m)^ +[\\w<>\\[\\] ]+\\w\\([^;{}=]*\\) \\{$");
 
     private LanguageTest() {

@@ -1,5 +1,6 @@
 import java.io.File;
 import java.io.IOException;
+import java.io.OutputStream;
 import java.net.URL;
 import java.net.URLClassLoader;
 import java.nio.file.Files;
@@ -17,7 +18,8 @@ import javax.tools.ToolProvider;
 
 /**
  * Breaks the program on purpose, sentence by sentence, and sees that the test of the sentence fails.
- * How it is broken stands in src/test/mutants.txt.
+ * How it is broken stands in src/test/mutants.txt. Lines that are not in the source (any more) are named
+ * and passed over: the program may be written otherwise and be right.
  */
 public final class MutantsTest {
     private static final Path SOURCE = Path.of("src/main/java/SurdFractions.java");
@@ -26,6 +28,10 @@ public final class MutantsTest {
 
     /** Lines of the source, and what stands in their place, for one test to find. */
     private record Mutant(int line, String test, List<String> from, List<String> to) {
+        @Override
+        public String toString() {
+            return MUTANTS + ":" + line + ": " + test + " ";
+        }
     }
 
     private MutantsTest() {
@@ -35,14 +41,19 @@ public final class MutantsTest {
         List<Mutant> mutants = read(Files.readAllLines(MUTANTS));
         eachTestHasAMutant(mutants);
         String source = Files.readString(SOURCE);
-        Path folder = Files.createTempDirectory("mutants");
-        List<String> faults = mutants.parallelStream().map(mutant -> faultOf(mutant, source, folder))
-                .filter(fault -> !fault.isEmpty()).collect(Collectors.toList());
-        delete(folder);
-        for (String fault : faults) {
-            Due.tell(fault);
+        List<Mutant> fitting = new ArrayList<>();
+        for (Mutant mutant : mutants) {
+            if (broken(mutant, source).isEmpty()) {
+                System.out.println(mutant + "passed over, as its lines are not in the source once");
+            } else {
+                fitting.add(mutant);
+            }
         }
-        System.out.println(mutants.size() + " broken programs were tested");
+        Path folder = Files.createTempDirectory("mutants");
+        fitting.parallelStream().map(mutant -> faultOf(mutant, source, folder)).filter(fault -> !fault.isEmpty())
+                .collect(Collectors.toList()).forEach(Due::tell);
+        delete(folder);
+        System.out.println(fitting.size() + " broken programs were tested");
         Due.end();
     }
 
@@ -82,35 +93,35 @@ public final class MutantsTest {
         }
     }
 
-    /** Tells what is wrong with the mutant or its test, or nothing. */
-    private static String faultOf(Mutant mutant, String source, Path folder) {
-        String name = MUTANTS + ":" + mutant.line + ": " + mutant.test + " ";
+    /** The source with the mutant's lines in it, or nothing if there is not just one place for them. */
+    private static String broken(Mutant mutant, String source) {
         String lines = mutant.from.stream().map(Pattern::quote).collect(Collectors.joining("\\s*\\n\\s*"));
         Matcher place = Pattern.compile(lines).matcher(source);
         if (!place.find()) {
-            return name + "is to be broken by lines that are not in the source";
+            return "";
         }
-        int start = place.start();
-        int end = place.end();
-        if (place.find()) {
-            return name + "is to be broken by lines that are in the source more than once";
-        }
-        String broken = source.substring(0, start) + String.join("\n", mutant.to) + source.substring(end);
+        String broken = source.substring(0, place.start()) + String.join("\n", mutant.to) + source.substring(place.end());
+        return place.find() ? "" : broken;
+    }
+
+    /** Tells what is wrong with the mutant or its test, or nothing. */
+    private static String faultOf(Mutant mutant, String source, Path folder) {
         try {
             Path classes = Files.createDirectory(folder.resolve(String.valueOf(mutant.line)));
-            return compile(broken, classes) ? fault(mutant, name, classes) : name + "is broken by lines that are no Java";
+            return compile(broken(mutant, source), classes) ? fault(mutant, classes) : mutant + "is no Java";
         } catch (IOException failed) {
-            return name + "could not be tried: " + failed;
+            return mutant + "could not be tried: " + failed;
         }
     }
 
     private static boolean compile(String source, Path folder) throws IOException {
         Path file = Files.writeString(folder.resolve("SurdFractions.java"), source);
-        return ToolProvider.getSystemJavaCompiler().run(null, Files.newOutputStream(folder.resolve("out")),
-                Files.newOutputStream(folder.resolve("err")), "--release", "17", "-d", folder.toString(), file.toString()) == 0;
+        OutputStream nowhere = OutputStream.nullOutputStream();
+        return ToolProvider.getSystemJavaCompiler().run(null, nowhere, nowhere,
+                "--release", "17", "-d", folder.toString(), file.toString()) == 0;
     }
 
-    private static String fault(Mutant mutant, String name, Path classes) {
+    private static String fault(Mutant mutant, Path classes) {
         boolean[] finds = new boolean[1];
         Thread trial = new Thread(() -> finds[0] = findsItBroken(mutant.test, classes));
         trial.setDaemon(true);
@@ -118,12 +129,12 @@ public final class MutantsTest {
         try {
             trial.join(MOST_MILLISECONDS);
         } catch (InterruptedException interrupted) {
-            return name + "was interrupted";
+            return mutant + "was interrupted";
         }
         if (trial.isAlive()) {
-            return name + "does not end";
+            return mutant + "does not end";
         }
-        return finds[0] ? "" : name + "does not find the broken program wrong";
+        return finds[0] ? "" : mutant + "does not find the broken program wrong";
     }
 
     private static boolean findsItBroken(String test, Path classes) {

@@ -153,7 +153,8 @@ final class SquaresSentences extends Calls {
         Due.is("root of " + d + ": leastSolution(1)", program.leastSolution(1), y);
     }
 
-    @Says(in = "Promise 13", value = "Returns a part of the least solution, with y above 0, of x * x - d * y * y = 1, whatever y is.")
+    @Says(in = "Promise 13", value =
+            "Returns a part of the least solution, with y above 0, of x * x - d * y * y = 1, whatever y is.")
     static void promise13_theLeastSolutionHasYAbove0AndIsWhateverYIs() {
         // 1 and 0 are a solution always.
         least(2, 3, 2);

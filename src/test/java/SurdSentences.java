@@ -3,7 +3,9 @@ final class SurdSentences extends Calls {
     private SurdSentences() {
     }
 
-    @Says(in = "The surd", value = "with whole numbers p (-99 to 99), d (2 to 999, no square of a whole number) and q (-99 to 99, not 0)")
+    @Says(in = "The surd", value =
+            "with whole numbers p (-99 to 99), d (2 to 999, no square of a whole number) and q (-99 to 99, not "
+            + "0)")
     static void theSurd_dIsNoSquareOfAWholeNumber() {
         for (int d = 2; d <= 999; d++) {
             int root = (int) Math.round(Math.sqrt(d));
@@ -53,7 +55,9 @@ final class SurdSentences extends Calls {
         Due.is("root of 2: term(399)", new SurdFractions().term(399), 1002);
     }
 
-    @Says(in = "Terms and convergents", value = "the lead is the least number j, and the period the least number n above 0, with sj being the same as s(j+n)")
+    @Says(in = "Terms and convergents", value =
+            "the lead is the least number j, and the period the least number n above 0, with sj being the same "
+            + "as s(j+n)")
     static void terms_leadAndPeriodAreTheLeast() {
         int[][] surds = {
             {1, 5, 2}, {1, 2, 1}, {2, 7, 1}, {0, 2, 1}, {99, 2, 1}, {0, 2, 99}, {99, 2, -1}, {-64, 2, -99}, {5, 8, 2},
@@ -205,7 +209,9 @@ final class SurdSentences extends Calls {
         outOfRange("term", of(0, 997, 97)::term, -1, 400);
     }
 
-    @Says(in = "Promise 5", value = "`what`: 0: the lead; 1: the period; 2: the greatest term of the period; 3: how many unlike terms the period has; 4: 1 if the period without its last term is the same read backwards, otherwise 0")
+    @Says(in = "Promise 5", value =
+            "`what`: 0: the lead; 1: the period; 2: the greatest term of the period; 3: how many unlike terms "
+            + "the period has; 4: 1 if the period without its last term is the same read backwards, otherwise 0")
     static void promise5_whatIsFrom0To4() {
         SurdFractions x = of(0, 19, 1);
         again(x, 1, 6, 8, 4, 1);

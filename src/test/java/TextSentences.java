@@ -1,9 +1,8 @@
 /** What the document says of texts (promises 20 to 23). */
 final class TextSentences extends Calls {
-    private static final String REASON_1 =
-            "reason 1: a character that is not allowed there (its place; the length of the text if it ends too early, as the empty text does)";
-    private static final String REASON_2 =
-            "reason 2: a number behind \";\" that is 0 (its place, whatever stands behind the 0)";
+    private static final String REASON_1 = "reason 1: a character that is not allowed there (its place; "
+            + "the length of the text if it ends too early, as the empty text does)";
+    private static final String REASON_2 = "reason 2: a number behind \";\" that is 0 (its place, whatever stands behind the 0)";
     private static final String TOLD_LIMIT = "LIMIT_REACHED for 0 and 1 if the upper or the lower part of this fraction, "
             + "or of one of the first terms of the text alone, is above 9000000000000000 without its sign, "
             + "for 4 if the upper part is above 30000 without its sign or the lower part above 200";
@@ -270,7 +269,10 @@ final class TextSentences extends Calls {
         hasNoFault("0", "-0", "1", "999", "-999;999,999", "1;2", FORTY_ALLOWED, "-1;1,1,1,1,1,1,1,1,1,1,1,1,1,1,1,1,1,1,1");
     }
 
-    @Says(in = "Promise 23", value = "`what`: 0: its upper part plus 9000000000000000; 1: its lower part; 2: how many terms the text has; 3: how many of them, from the first one on, are the terms of s; 4: 1 if it is above s, otherwise 0")
+    @Says(in = "Promise 23", value =
+            "`what`: 0: its upper part plus 9000000000000000; 1: its lower part; 2: how many terms the text "
+            + "has; 3: how many of them, from the first one on, are the terms of s; 4: 1 if it is above s, "
+            + "otherwise 0")
     static void promise23_whatIsFrom0To4() {
         SurdFractions x = new SurdFractions();
         write(x, "1;2,3");
